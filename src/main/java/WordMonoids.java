@@ -643,59 +643,51 @@ public final class WordMonoids {
         return big;
     }
 
-    /** One WORD at a time, held letter by letter, so that machines and formulas need no row of their own. */
+    /** One WORD at a time: two bits a letter, the last letter lowest, so that it is read without a row. */
     private static final class Words {
-        private final int[] letters = new int[WORD_LETTERS];
+        private int bits = 0;
         private int length = 0;
 
         boolean read(int number) {
             if (number < 0) {
                 return false;
             }
+            int read = 0;
             int digits = 0;
             for (int rest = number; rest > 0; rest /= 10) {
-                digits++;
-            }
-            if (digits > WORD_LETTERS) {
-                return false;
-            }
-            int rest = number;
-            for (int at = digits - 1; at >= 0; at--) {
                 int digit = rest % 10;
-                if (digit < 1 || digit > LETTERS) {
+                if (digit < 1 || digit > LETTERS || digits >= WORD_LETTERS) {
                     return false;
                 }
-                letters[at] = digit - 1;
-                rest /= 10;
+                read |= (digit - 1) << 2 * digits;
+                digits++;
             }
+            bits = read;
             length = digits;
             return true;
         }
 
         int letterAt(int k) {
-            return k >= 0 && k < WORD_LETTERS ? letters[k] : 0;
+            return bits >> 2 * (length - 1 - k) & 3;
         }
 
         void first(int n) {
-            length = n < 0 ? 0 : Math.min(n, WORD_LETTERS);
-            Arrays.fill(letters, 0);
+            bits = 0;
+            length = n;
         }
 
-        /** To the next word of this length by number; behind the last one the first comes again. */
+        /** To the next word of this length by number; what is behind the last one is none any more. */
         void advance() {
-            for (int at = length - 1; at >= 0; at--) {
-                if (letters[at] < LETTERS - 1) {
-                    letters[at]++;
-                    return;
-                }
-                letters[at] = 0;
+            bits++;
+            for (int k = 0; k < length && (bits >> 2 * k & 3) == LETTERS; k++) {
+                bits += 1 << 2 * k;
             }
         }
 
         int told() {
             int number = 0;
             for (int k = 0; k < length; k++) {
-                number = number * 10 + letters[k] + 1;
+                number = number * 10 + letterAt(k) + 1;
             }
             return number;
         }
@@ -1404,7 +1396,7 @@ public final class WordMonoids {
         private final int[] ops = new int[TAPE_BYTES];
         private int opCount = 0;
 
-        /** An atom in one number: its kind, how many (letters, or the digit), up to three letters. */
+        /** An atom in one number: its kind, how many (letters, or the digit), its letters as in Words. */
         static int atom(int kind, int many, int letters) {
             return kind | many << 4 | letters << 8;
         }
@@ -1440,10 +1432,6 @@ public final class WordMonoids {
             return op >> 4 & 15;
         }
 
-        private static int letterOf(int op, int k) {
-            return op >> (8 + 2 * k) & 3;
-        }
-
         private static boolean isSo(int op, Words w) {
             int many = howMany(op);
             switch (op & 15) {
@@ -1452,47 +1440,41 @@ public final class WordMonoids {
                 case MULTIPLE:
                     return many > 0 && w.length % many == 0;
                 case BEGINS:
-                    return standsAt(op, w, 0);
+                    return w.length >= many && w.bits >> 2 * (w.length - many) == op >> 8;
                 case FINISHES:
-                    return standsAt(op, w, w.length - many);
+                    return w.length >= many && (w.bits & (1 << 2 * many) - 1) == op >> 8;
                 case BESIDE:
-                    return standsSomewhere(op, w);
+                    return standsBeside(op >> 8, many, w);
                 default:
-                    return standsScattered(op, w);
+                    return standsScattered(op >> 8, many, w);
             }
         }
 
-        private static boolean standsAt(int op, Words w, int at) {
-            int many = howMany(op);
-            if (at < 0 || at + many > w.length) {
-                return false;
-            }
-            for (int k = 0; k < many; k++) {
-                if (w.letterAt(at + k) != letterOf(op, k)) {
-                    return false;
-                }
-            }
-            return true;
-        }
-
-        private static boolean standsSomewhere(int op, Words w) {
-            for (int at = 0; at < w.length; at++) {
-                if (standsAt(op, w, at)) {
+        private static boolean standsBeside(int letters, int many, Words w) {
+            int mask = (1 << 2 * many) - 1;
+            int rest = w.bits;
+            for (int k = w.length; k >= many; k--) {
+                if ((rest & mask) == letters) {
                     return true;
                 }
+                rest >>= 2;
             }
             return false;
         }
 
-        private static boolean standsScattered(int op, Words w) {
-            int many = howMany(op);
-            int found = 0;
-            for (int at = 0; at < w.length && found < many; at++) {
-                if (w.letterAt(at) == letterOf(op, found)) {
-                    found++;
+        /** From the end on: the last letter that fits is as good as any. */
+        private static boolean standsScattered(int letters, int many, Words w) {
+            int rest = w.bits;
+            int wanted = letters;
+            int left = many;
+            for (int k = w.length; k >= left && left > 0; k--) {
+                if ((rest & 3) == (wanted & 3)) {
+                    wanted >>= 2;
+                    left--;
                 }
+                rest >>= 2;
             }
-            return found == many;
+            return left == 0;
         }
     }
 
@@ -1640,7 +1622,7 @@ public final class WordMonoids {
             int many = 0;
             int letters = 0;
             while (many < LETTERS && peek() >= 'a' && peek() <= 'c') {
-                letters |= (peek() - 'a') << 2 * many;
+                letters = letters << 2 | (peek() - 'a');
                 many++;
                 at++;
             }
