@@ -38,8 +38,8 @@ public final class WordMonoids {
     private final Sheet[] sheets = new Sheet[SHEETS];
     private final Reader reader = new Reader();
     private final Words words = new Words();
-    private final Monoid monoid = new Monoid();
-    private final Laws laws = new Laws(monoid);
+    private final Laws laws = new Laws();
+    private final Monoid monoid = laws.monoid;
     private final Known known = new Known();
     private final Pairs pairs = new Pairs();
     private int machineCount = 0;
@@ -205,8 +205,7 @@ public final class WordMonoids {
         if (what == 2) {
             return monoid.numberOf(monoid.omegaOf(monoid.codeOf(i)));
         }
-        int index = monoid.indexOf(i);
-        return what == 0 ? index : monoid.periodOf(i, index);
+        return what == 0 ? monoid.indexOf(i) : monoid.periodOf(i);
     }
 
     public int below(int machine, int i, int j, int side) {
@@ -962,10 +961,11 @@ public final class WordMonoids {
             return (least.ends >> (codeOf(i) & 3) & 1) == 1;
         }
 
+        /** A power is come to again just if OMEGA times it is itself. */
         int indexOf(int i) {
             int nth = codeOf(i);
             for (int n = 1; n < CODES; n++) {
-                if (comesAgain(nth, codeOf(i))) {
+                if (then(nth, omegaOf(codeOf(i))) == nth) {
                     return n;
                 }
                 nth = then(nth, codeOf(i));
@@ -973,14 +973,12 @@ public final class WordMonoids {
             return CODES;
         }
 
-        int periodOf(int i, int index) {
-            int nth = codeOf(i);
-            for (int n = 1; n < index; n++) {
-                nth = then(nth, codeOf(i));
-            }
-            int later = then(nth, codeOf(i));
+        /** Once round from OMEGA: all powers that are come to again have the same period. */
+        int periodOf(int i) {
+            int omega = omegaOf(codeOf(i));
+            int later = then(omega, codeOf(i));
             for (int period = 1; period < CODES; period++) {
-                if (later == nth) {
+                if (later == omega) {
                     return period;
                 }
                 later = then(later, codeOf(i));
@@ -1001,7 +999,7 @@ public final class WordMonoids {
         int greatestPeriod() {
             int greatest = 1;
             for (int i = 0; i < elements; i++) {
-                greatest = Math.max(greatest, periodOf(i, indexOf(i)));
+                greatest = Math.max(greatest, periodOf(i));
             }
             return greatest;
         }
@@ -1146,26 +1144,14 @@ public final class WordMonoids {
             }
             return nth;
         }
-
-        private boolean comesAgain(int nth, int code) {
-            int later = then(nth, code);
-            for (int n = 1; n < CODES && later != nth; n++) {
-                later = then(later, code);
-            }
-            return later == nth;
-        }
     }
 
     /** LAWS over the elements that the monoid has learnt. */
     private static final class Laws {
-        private final Monoid monoid;
+        private final Monoid monoid = new Monoid();
         private int aroundCount = 0;
         private int wrongI = NONE;
         private int wrongJ = NONE;
-
-        Laws(Monoid monoid) {
-            this.monoid = monoid;
-        }
 
         boolean findWrong(int law) {
             boolean byOne = law == 0 || law == 1 || law == 3;
