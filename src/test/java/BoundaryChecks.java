@@ -326,7 +326,7 @@ public final class BoundaryChecks {
         made:0/10/111,222,333,000=1 of(1,3)=2 of(1,4)=2 ends(1,8)=10 of(1,3)=4 of(1,4)=8""");
     test(7, "numbered as they are come to first: START 0; then from 0, 1, .. on by LETTERS 0, 1, 2 those that are new.", """
         made:0/8/321,111,222,333=0 of(0,3)=3 of(0,4)=2 made:3/2/000,111,222,213=1 of(1,3)=3 of(1,4)=4
-        made:2/2/000,013,312,333=2 of(2,3)=3 of(2,4)=4""");
+        made:2/2/000,013,312,333=2 of(2,4)=4 of(2,3)=3 of(0,4)=2 of(1,4)=4 of(0,3)=3""");
     test(8, "WORDS of 0 .. 9 letters are told as whole numbers", """
         machine(1)=0 ends(0,1)=0 takes(0,0)=1 takes(0,1)=1 takes(0,3)=1 takes(0,111111111)=1 takes(0,333333333)=1
         takes(0,1111111111)=-2 takes(0,2111111111)=-2 takes(0,2122222222)=-2""");
@@ -384,6 +384,8 @@ public final class BoundaryChecks {
   private static final String ALL_THAT_CAN_BE_DONE = "made:0/1/110,201,322,030=0 ";
   /** Subword ab: the elements are nothing, a, b, ab, ba; the letter c does nothing. */
   private static final String SUBWORD_AB = "made:0/4/100,121,222=0 ";
+  /** a and b side by side: here no word but the empty one does nothing. */
+  private static final String SIDE_BY_SIDE_AB = "made:0/4/100,120,222=0 ";
   /** The first letter is a: the elements are nothing, a, b (or c). */
   private static final String FIRST_LETTER_A = "made:0/2/122,111,222=0 ";
   /** The last letter is a: the elements are nothing, a, b (or c). */
@@ -405,6 +407,9 @@ public final class BoundaryChecks {
         size(0)=256 word(0,255,-1)=10 word(0,256,-1)=-2 times(0,255,0)=255 times(0,0,255)=255 times(0,256,0)=-2 power(0,255,1)=1
         power(0,256,1)=-2 below(0,255,0,0)=1 below(0,256,0,0)=-2 green(0,0)=41 green(0,1)=15 green(0,2)=15 green(0,3)=4
         green(0,4)=4 green(0,5)=64 green(0,6)=-1 holds(0)=0""");
+    for (String moves : new String[] {"110,201,322,030", "123,222,333,222", "031,111,211,132", "320,220,110,303"}) {
+      testBy(11, "all that words do in THE LEAST", x -> everyChangeCounts(moves));
+    }
     test(12, "how many letters (k NONE), its k-th LETTER (from 0; NONE: it has fewer)", SUBWORD_AB + """
         word(0,0,-1)=0 word(0,0,0)=-1 word(0,0,MAX)=-1 word(0,1,-1)=1 word(0,1,0)=0 word(0,1,1)=-1 word(0,2,0)=1 word(0,3,-1)=2
         word(0,3,0)=0 word(0,3,1)=1 word(0,3,2)=-1 word(0,4,0)=1 word(0,4,1)=0 word(0,4,2)=-1 word(0,4,MAX)=-1""");
@@ -422,6 +427,42 @@ public final class BoundaryChecks {
         times(0,0,0)=0 times(0,4,4)=3 times(0,0,4)=4 times(0,4,0)=4 times(0,5,0)=-2 times(0,0,5)=-2 times(0,-1,0)=-2
         times(0,0,-1)=-2 times(0,MAX,0)=-2 times(0,0,MIN)=-2 times(1,0,0)=-2 times(-1,0,0)=-2 times(3,0,0)=-2""");
     test(14, "what the word of i with that of j behind it does", SUBWORD_AB + "times(0,1,2)=3 times(0,2,1)=4 times(0,1,4)=3 times(0,4,1)=4");
+  }
+
+  /** What was found of a machine must not be told of it any more when it has become another one. */
+  private static void everyChangeCounts(String moves) {
+    for (int at = 0; at < 12; at++) {
+      int place = at + at / 3;
+      for (char to = '0'; to < '4'; to++) {
+        String changed = moves.substring(0, place) + to + moves.substring(place + 1);
+        changeCounts("0/5/" + moves, "step(0," + at / 3 + "," + at % 3 + "," + to + ")=" + moves.charAt(place), "0/5/" + changed);
+      }
+    }
+    for (int start = 0; start < 4; start++) {
+      changeCounts("1/9/" + moves, "start(0," + start + ")=1", start + "/9/" + moves);
+    }
+    for (int ends = 0; ends < 16; ends++) {
+      changeCounts("0/6/" + moves, "ends(0," + ends + ")=6", "0/" + ends + "/" + moves);
+    }
+  }
+
+  private static void changeCounts(String before, String change, String after) {
+    WordMonoids x = new WordMonoids();
+    runRows(x, "made:" + before + "=0", true);
+    whatWordsDo(x);
+    runRows(x, change, true);
+    WordMonoids y = new WordMonoids();
+    runRows(y, "made:" + after + "=0", true);
+    if (!whatWordsDo(x).equals(whatWordsDo(y))) {
+      fail(before + ", then " + change + " is another one than " + after);
+    }
+  }
+
+  private static String whatWordsDo(WordMonoids x) {
+    StringBuilder s = new StringBuilder();
+    for (int what = 0; what < 7; what++) s.append(invoke(x, "green", 0, what)).append(' ');
+    for (int word : new int[] {1, 2, 3, 12, 13, 21, 31, 32, 123, 321}) s.append(invoke(x, "element", 0, word)).append(' ');
+    return s.append(invoke(x, "size", 0)).append(' ').append(invoke(x, "holds", 0)).append(' ').append(invoke(x, "of", 0, 3)).toString();
   }
 
   private static void powers() {
@@ -478,7 +519,8 @@ public final class BoundaryChecks {
         + THREE_A + "wrong(0,6,0)=-1 drop()=0 " + SUBWORD_AB + "wrong(0,6,0)=-1");
     test(18, "7: i is no TIE; or x, that is i times j times i, is an IDEMPOTENT, and x times y is y times x for each y that is i times some ELEMENT times i.",
         SUBWORD_AB + "wrong(0,7,0)=0 wrong(0,7,1)=1 drop()=0 " + THREE_A + "wrong(0,7,0)=0 wrong(0,7,1)=1 drop()=0 " + FIRST_LETTER_A
-        + "wrong(0,7,0)=-1 drop()=0 made:0/8/123,333,333,333=0 wrong(0,7,0)=-1 drop()=0 made:0/2/120,111,222=0 wrong(0,7,0)=0 wrong(0,7,1)=1");
+        + "wrong(0,7,0)=-1 drop()=0 made:0/8/123,333,333,333=0 wrong(0,7,0)=-1 drop()=0 made:0/2/120,111,222=0 wrong(0,7,0)=0 wrong(0,7,1)=1 drop()=0 "
+        + SIDE_BY_SIDE_AB + "wrong(0,7,0)=-1 wrong(0,10,0)=1 wrong(0,10,1)=2");
     test(18, "8: i is no TIE, or j times i is i.", FIRST_LETTER_A + "wrong(0,8,0)=1 wrong(0,8,1)=2 drop()=0 " + LAST_LETTER_A
         + "wrong(0,8,0)=-1 drop()=0 " + SUBWORD_AB + "wrong(0,8,0)=0 wrong(0,8,1)=1");
     test(18, "9: i is no TIE, or i times j is i.", LAST_LETTER_A + "wrong(0,9,0)=1 wrong(0,9,1)=2 drop()=0 " + FIRST_LETTER_A
@@ -525,6 +567,10 @@ public final class BoundaryChecks {
       test(20, "(of the empty word none)", ("made:0/2/{M},{M},{M}=0 level(0,1)=2 level(0,0)=-1 ends(0,5)=2 level(0,1)=2 "
           + "made:0/2/{M},111,222=1 level(1,1)=2 ends(1,5)=2 level(1,1)=2").replace("{M}", moves));
     }
+    for (int two = 0; two < 9; two++) {
+      test(20, "which twos stand in it side by side", sideBySide(two) + "level(0,1)=2 level(0,0)=-1 turn(0)=3 level(0,1)=2 level(0,0)=-1");
+      test(20, "which twos of LETTERS (also alike ones) are in it one behind the other", oneBehind(two) + "level(0,0)=2 level(0,1)=-1 turn(0)=3 level(0,0)=2 level(0,1)=-1");
+    }
     test(20, "never one is taken and the other not (words of any length)", "made:0/13/031,111,211,132=0 level(0,1)=-1 "
         + "made:0/1/031,111,011,332=1 level(1,0)=-1");
     test(21, "SEPARATES by a KIND (0, 1); NONE. BAD: machine, other, kind.", "separates(0,0,0)=-2 machine(1)=0 separates(0,1,0)=-2 "
@@ -542,8 +588,29 @@ public final class BoundaryChecks {
         separates(0,1,1)=-1""");
     test(21, "(words of any length)", """
         made:0/4/331,332,003,333=0 made:0/8/212,320,010,022=1 separates(0,1,0)=-1 separates(1,0,0)=-1""");
+    // of these two the same is known just of words in which all nine twos stand side by side
+    test(21, "which twos stand in it side by side", """
+        made:0/1/311,111,133,302=0 made:0/4/122,233,301,333=1 separates(0,1,1)=-1 separates(1,0,1)=-1""");
     test(21, "(words of any length)", """
         made:0/2/032,101,133,333=0 made:0/4/320,220,110,303=1 separates(0,1,1)=-1 separates(1,0,1)=-1""");
+  }
+
+  /** The two letters of a two, by threes, stand side by side. */
+  private static String sideBySide(int two) {
+    int first = two / 3;
+    int second = two % 3;
+    char[][] moves = {{'0', '0', '0'}, {'0', '0', '0'}, {'2', '2', '2'}};
+    moves[0][first] = '1';
+    moves[1][first] = '1';
+    moves[1][second] = '2';
+    return "made:0/4/" + new String(moves[0]) + "," + new String(moves[1]) + ",222=0 ";
+  }
+
+  private static String oneBehind(int two) {
+    char[][] moves = {{'0', '0', '0'}, {'1', '1', '1'}};
+    moves[0][two / 3] = '1';
+    moves[1][two % 3] = '2';
+    return "made:0/4/" + new String(moves[0]) + "," + new String(moves[1]) + ",222=0 ";
   }
 
   private static void leastWords() {
@@ -556,6 +623,9 @@ public final class BoundaryChecks {
         made:0/8/330,220,211,010=0 made:0/4/330,102,110,020=1 least(0,1,0)=121211222311212 least(1,0,0)=121211222311212
         drop()=1 drop()=0 made:0/8/100,200,300,000=0 made:0/4/100,200,000=1 least(0,1,0)=11111111111 least(0,1,1)=11 least(0,1,2)=111
         least(1,0,2)=11""");
+    test(22, "if one comes from START, letter by letter, to one of ENDS", """
+        made:3/4/122,032,111,013=0 made:2/2/121,001,212=1 least(0,1,0)=12 least(1,0,0)=12 least(0,1,1)=2 least(0,1,2)=13
+        least(1,0,2)=2 start(0,2)=3 start(1,1)=2 least(0,1,0)=0 least(0,1,1)=3""");
     test(22, "shorter ones ahead, of one length by their numbers", """
         made:0/2/023,010,121,333=0 machine(1)=1 least(0,1,1)=21 least(0,1,2)=21 least(1,0,2)=-1 ends(0,8)=2 least(0,1,1)=3
         ends(0,10)=8 least(0,1,1)=3 turn(1)=1 least(0,1,0)=3 least(1,0,2)=0 least(0,1,1)=0 ends(0,4)=10 least(0,1,0)=2""");
@@ -575,7 +645,7 @@ public final class BoundaryChecks {
     test(23, "-100 less the place of its FAULT", "read:x=-100 read:e)=-101 read:(e|~abc&x)=-108 read:~abc|=-105 formula()=-100");
     test(23, "(60 bytes at most; no blanks)", "read:" + SIXTY_BYTES.substring(0, 59) + "=0 says(0,123)=1 says(0,132)=0 read:"
         + SIXTY_BYTES + "=-159 read:" + SIXTY_BYTES.substring(0, 54) + "|~abcc=-159 read:" + SIXTY_BYTES.substring(0, 54)
-        + "|~ab&e=1 read:" + SIXTY_BYTES.substring(0, 55) + "!!!!!=-160 causes:0,55,56,57,58,59,60");
+        + "|~ab&e=1 says(1,123)=1 says(1,132)=0 read:" + SIXTY_BYTES.substring(0, 55) + "!!!!!=-160 causes:0,55,56,57,58,59,60");
     test(23, "(60 bytes at most; no blanks)", "read:_e=-100 read:e_=-101 read:e_&e=-101 read:e&_e=-102 read:~_a=-101 read:~a_=-102 "
         + "read:%_2=-101 read:(_e)=-101 read:!_e=-101");
     test(23, "(the tape's size, if it ends too early)", """
@@ -614,6 +684,14 @@ public final class BoundaryChecks {
     test(25, "! not; & both; | one or both", """
         read:!~a=0 read:~a&~b=1 read:~a|~b=2 read:!~a&~b|~c=3 says(0,0)=1 says(0,1)=0 says(1,1)=0 says(1,2)=0 says(1,12)=1 says(2,1)=1
         says(2,2)=1 says(2,12)=1 says(2,3)=0 says(3,2)=1 says(3,12)=0 says(3,123)=1 says(3,0)=0""");
+    test(25, "EITHER: BOTH { | BOTH }. BOTH: ONE { & ONE }. ONE: ! ONE; ( EITHER ); ATOM.", """
+        read:!e&(~a&~b)=0 read:~a&(~b|~c)&(e|(~a&(%2|%3)))=1 read:!(~a|!(~b|!(~c|e)))=2 read:~a|~b&~c|!(~a|(~b|~c))=3 says(0,12)=1
+        says(0,1)=0 says(0,2)=0 says(1,12)=1 says(1,1)=0 says(1,1112)=1 says(1,11113)=0 says(1,23)=0 says(2,0)=0 says(2,1)=0
+        says(2,2)=1 says(2,3)=0 says(2,32)=1 says(3,0)=1 says(3,1)=1 says(3,2)=0 says(3,3)=0 says(3,23)=1 says(3,123)=1""");
+    test(25, "EITHER: BOTH { | BOTH }. BOTH: ONE { & ONE }. ONE: ! ONE; ( EITHER ); ATOM.", """
+        read:!(e&(!e&(!e&(e))))=0 read:(((((e)|^b)&!$c)|#cc)&!%4)=1 read:e|(e|(e|(e|(e|(^a)))))=2 read:!^a&(!^b&(!e&(!$a&($c))))=3
+        says(0,0)=1 says(0,1)=1 says(1,0)=0 says(1,2)=1 says(1,23)=0 says(1,233)=1 says(1,2331)=0 says(2,1)=1 says(2,0)=1 says(2,2)=0
+        says(3,3)=1 says(3,13)=0 says(3,23)=0 says(3,31)=0 says(3,32)=0 says(3,0)=0""");
     test(25, "Whether a FORMULA says so of a WORD: 1, 0. BAD.", """
         says(0,0)=-2 read:e=0 says(0,0)=1 says(1,0)=-2 says(-1,0)=-2 says(4,0)=-2 says(MAX,0)=-2 says(MIN,0)=-2 says(0,4)=-2
         says(0,10)=-2 says(0,-1)=-2 says(0,1111111111)=-2 says(0,MAX)=-2 says(0,MIN)=-2 says(0,333333333)=0 read:e=1 read:e=2
@@ -630,8 +708,9 @@ public final class BoundaryChecks {
     test(24, "CAUSES of the latest FORMULA that had a FAULT: 0, that of the FORMULA", """
         formula()=-100 causes:0,0 read:(((=-103 causes:0,0,1,2,3 read:ex=-101 causes:0,1 read:e=0 read:e=1 read:e=2
         read:!x=-101 causes:0,0,1""");
-    test(24, "FULL (ahead of the FAULT; then THE TAPE stays).".substring(0, 4), """
-        read:e=0 read:e=1 read:e=2 read:e=3 read:x=-4 why(-1)=0 formula()=-4 why(-1)=0""");
+    test(24, "or a FORMULA has come since", """
+        read:e=0 read:e=1 read:e=2 read:(x=-101 why(-1)=3 read:e=3 why(-1)=0 read:x=-4 why(-1)=0 formula()=-4 why(-1)=0
+        why(0)=-1""");
     test(24, "then the places of all ( and ! that are open at the FAULT, from the outermost in; then the FAULT", """
         read:e|x=-102 causes:0,2 read:(e)&(x=-105 causes:0,4,5 read:!e&(!(e)|!x=-110 causes:0,3,9,10 read:!~=-102 causes:0,0,2
         read:!~a)=-103 causes:0,3 read:(!~a=-104 causes:0,0,4 read:(!%2x=-104 causes:0,0,4 read:!(e)x=-104 causes:0,4

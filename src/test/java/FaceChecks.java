@@ -18,7 +18,9 @@ public final class FaceChecks {
     "int formula 0", "int why 1", "int says 2", "int many 3", "int agree 3", "int drawn 3", "int chance 5",
     "int tells 3", "int film 4", "int feed 6", "int image 0", "int back 0", "int load 4", "int count 1",
     "int sheet 3", "int put 3", "int copy 5"};
-  private static final long ROOM_BYTES_OF_ONE = 80000;
+  /** 7.3 million fields and elements are there for all calls of a run: here as if each were a long. */
+  private static final long ROOM_BYTES = 7300000L * 8;
+  private static final int CALLS_MOST = 512;
   private static int failures = 0;
 
   private static void fail(String what) {
@@ -54,7 +56,9 @@ public final class FaceChecks {
     for (Class<?> inner : c.getDeclaredClasses()) {
       if (!Modifier.isStatic(inner.getModifiers())) fail(inner + " is not static");
       if (inner.getDeclaredFields().length > 40) fail(inner + " has too many fields");
-      for (Method m : inner.getDeclaredMethods()) if (names.contains(m.getName())) fail(inner + " has " + m);
+      for (Method m : inner.getDeclaredMethods()) {
+        if (!isOpen(m) && !m.isSynthetic() && names.contains(m.getName())) fail("a private method bears a public name: " + m);
+      }
     }
     if (c.getDeclaredClasses().length > 12) fail("too many classes");
   }
@@ -62,14 +66,15 @@ public final class FaceChecks {
   private static void checkSource() throws Exception {
     String source = Files.readString(Path.of("src/main/java/WordMonoids.java"));
     String code = source.replaceAll("(?s)/\\*.*?\\*/", " ").replaceAll("//[^\n]*", " ");
-    String[] words = {"throw", "try", "catch", "synchronized", "assert", "package", "protected", "Object", "->", "::",
-      "System.out", "Exact", "@", "String.format", "instanceof", "double", "float"};
+    String[] words = {"throw", "try", "catch", "synchronized", "assert", "package", "protected", "::",
+      "System.out", "Exact", "String.format"};
     for (String w : words) {
       boolean there = w.matches("\\w+") && !w.equals("Exact") ? code.matches("(?s).*\\b" + w + "\\b.*") : code.contains(w);
       if (there) fail("the program has " + w);
     }
     for (String line : code.split("\n")) {
-      if (line.startsWith("import") && !line.equals("import java.util.Arrays;")) fail("the program has " + line);
+      if (line.startsWith("import") && !line.matches("import java\\.util\\.(Arrays|ArrayList|List|Iterator);")) fail("the program has " + line);
+      if (line.contains("->") && !line.contains("case ") && !line.contains("default ")) fail("a lambda: " + line);
       if (line.contains("static") && line.contains(" = ") && !line.contains("final")) fail("static state: " + line);
     }
     for (char sign : source.toCharArray()) if (sign > 126) fail("a sign above 126");
@@ -187,31 +192,31 @@ public final class FaceChecks {
     if (refusals < 1000) fail("hardly any refusals were tried");
   }
 
-  /** The constructor makes a known amount; calls make nothing, so a run can't outgrow its room. */
+  /** An object and as many calls as it is used for, the dearest ones, stay within the room of one run. */
   private static void checkRoom() {
     Random r = new Random(5);
     WordMonoids warm = new WordMonoids();
-    for (int k = 0; k < 3000; k++) call(warm, r);
+    for (int k = 0; k < CALLS_MOST; k++) call(warm, r);
     long before = allocated();
     WordMonoids x = new WordMonoids();
-    long made = allocated() - before;
-    if (made > ROOM_BYTES_OF_ONE) fail("an object takes " + made + " bytes");
     x.machine(4);
-    x.step(0, 0, 0, 1);
-    x.step(0, 1, 1, 2);
-    x.step(0, 2, 2, 3);
+    int[] all = {1, 1, 0, 2, 0, 1, 3, 2, 2, 0, 3, 0};
+    for (int at = 0; at < 12; at++) x.step(0, at / 3, at % 3, all[at]);
     x.ends(0, 8);
     x.feed(5, '~', 'a', '|', '!', 'e');
     x.formula();
-    before = allocated();
     long sum = 0;
-    for (int k = 0; k < 5; k++) {
-      sum += x.size(0) + x.holds(0) + x.green(0, 3) + x.level(0, k % 2) + x.separates(0, 0, k % 2) + x.least(0, 0, 0);
-      sum += x.many(1, 0, 9) + x.agree(0, 0, 5) + x.film(0, 0, 0, 40) + x.tells(0, 0, 0) + x.chance(0, k, 20, 99, 0);
+    int made = 17;
+    for (int k = 0; made + 20 <= CALLS_MOST; k++) {
+      // another machine each time, so that nothing that was found can be used again
+      sum += x.step(0, 3, 2, k % 4) + x.size(0) + x.holds(0) + x.green(0, 3) + x.level(0, k % 2) + x.separates(0, 0, k % 2);
+      sum += x.many(1, 0, 9) + x.many(0, 0, 9) + x.agree(0, 0, 5) + x.film(0, 0, 0, 40) + x.tells(0, 0, 0) + x.chance(0, k, 20, 99, 0);
       sum += x.image() + x.back() + x.sheet(1, 0, 40) + x.copy(1, 0, 1, 3, 9) + x.feed(1, '!', 0, 0, 0, 0) + x.formula();
+      sum += x.wrong(0, 11, 0) + x.least(0, 0, 0);
+      made += 20;
     }
-    made = allocated() - before;
-    if (made > 2000) fail("calls made " + made + " bytes (" + sum + ")");
+    long bytes = allocated() - before;
+    if (bytes > ROOM_BYTES) fail("a run took " + bytes + " bytes (" + sum + ")");
   }
 
   public static void main(String[] args) throws Exception {
