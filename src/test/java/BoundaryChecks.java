@@ -237,6 +237,17 @@ public final class BoundaryChecks {
     test(1, "or missing (as all are at first)", "put(0,0,0)=-11 put(1,0,0)=-11 put(2,0,0)=-11 put(3,0,0)=-11");
     test(1, "BAD (-2: a number is none such or not as told), STATE (-3), FULL (-4)", """
         machine(0)=-2 drop()=-3 machine(1)=0 machine(1)=1 machine(1)=2 machine(1)=-4""");
+    testBy(1, "public static final int NONE = -1, BAD = -2, STATE = -3, FULL = -4;", x -> {
+      due("NONE", WordMonoids.NONE, -1);
+      due("BAD", WordMonoids.BAD, -2);
+      due("STATE", WordMonoids.STATE, -3);
+      due("FULL", WordMonoids.FULL, -4);
+    });
+    test(1, "Refusals, the first that the call's words name; they change nothing (but THE TAPE, where told)", """
+        machine(1)=0 machine(2)=1 machine(3)=2 machine(5)=-2 machine(4)=-4 read:~ax=-102 count(2)=0 read:e=0 read:e=1 read:e=2 read:e=3
+        read:~ax=-4 count(2)=3 feed(5,1,1,1,1,256)=-2 count(2)=3 load(0,0,0,3)=-2 load(0,0,0,0)=-11 sheet(0,1,2)=1 load(0,0,9,0)=-13
+        load(0,1,9,0)=-12 sheet(0,2,-1)=-2 sheet(0,1,-1)=-14 copy(0,9,4,9,9)=-2 copy(0,9,1,9,9)=-11 sheet(1,0,2)=1
+        copy(0,9,1,9,9)=-13 copy(0,9,0,9,9)=-12 put(4,9,0)=-2 put(2,9,0)=-11 put(0,9,0)=-12 tells(2,0,3)=-2 tells(2,0,0)=-11""");
     testBy(1, "What is asked changes nothing.", BoundaryChecks::askingChangesNothing);
     testBy(1, "An object is used for at most 512 calls after it has been made", x -> {
       x.machine(2);
@@ -327,6 +338,12 @@ public final class BoundaryChecks {
     test(7, "numbered as they are come to first: START 0; then from 0, 1, .. on by LETTERS 0, 1, 2 those that are new.", """
         made:0/8/321,111,222,333=0 of(0,3)=3 of(0,4)=2 made:3/2/000,111,222,213=1 of(1,3)=3 of(1,4)=4
         made:2/2/000,013,312,333=2 of(2,4)=4 of(2,3)=3 of(0,4)=2 of(1,4)=4 of(0,3)=3""");
+    test(7, "how many POINTS (what 0), START (1), ENDS (2), how many POINTS THE LEAST has (3), its ENDS (4, bits)", """
+        made:3/6/111,222,000,213=0 of(0,0)=4 of(0,1)=3 of(0,2)=6 of(0,3)=4 of(0,4)=6 made:1/1/111,000=1 of(1,0)=2 of(1,1)=1 of(1,2)=1
+        of(1,3)=2 of(1,4)=2 machine(1)=2 of(2,0)=1 of(2,1)=0 of(2,2)=0 of(2,3)=1 of(2,4)=0 turn(2)=1 of(2,4)=1""");
+    test(8, "a digit 1, 2, 3 for LETTER 0, 1, 2 each", """
+        made:0/2/123,111,222,333=0 takes(0,1)=1 takes(0,2)=0 takes(0,3)=0 ends(0,4)=2 takes(0,1)=0 takes(0,2)=1 takes(0,3)=0 ends(0,8)=4
+        takes(0,1)=0 takes(0,2)=0 takes(0,3)=1 takes(0,0)=0""");
     test(8, "WORDS of 0 .. 9 letters are told as whole numbers", """
         machine(1)=0 ends(0,1)=0 takes(0,0)=1 takes(0,1)=1 takes(0,3)=1 takes(0,111111111)=1 takes(0,333333333)=1
         takes(0,1111111111)=-2 takes(0,2111111111)=-2 takes(0,2122222222)=-2""");
@@ -367,6 +384,9 @@ public final class BoundaryChecks {
     test(9, "ENDS become the POINTS from which it leads to ENDS", """
         made:0/8/113,303,333,012=0 quotient(0,2,1)=7 of(0,2)=7 quotient(0,0,1)=9 quotient(0,1,1)=6 quotient(0,1,1)=9
         ends(0,15)=9 quotient(0,1,1)=15 ends(0,0)=15 quotient(0,0,1)=0 of(0,1)=0 ends(0,4)=0 quotient(0,0,1)=0""");
+    test(9, "QUOTIENT by a LETTER: on the left (side 0)", """
+        made:0/8/100,120,123,333=0 takes(0,123)=1 takes(0,23)=0 quotient(0,0,0)=1 takes(0,123)=1 takes(0,23)=1 takes(0,3)=0
+        quotient(0,2,1)=12 takes(0,2)=1 takes(0,0)=0 quotient(0,1,1)=14 takes(0,0)=1""");
     test(9, "QUOTIENT, truly: START then (side 0), ENDS then (1). BAD: machine, letter, side.", """
         quotient(0,0,0)=-2 made:1/2/122,012,210=0 quotient(0,3,0)=-2 quotient(0,-1,0)=-2 quotient(0,3,1)=-2
         quotient(0,-1,1)=-2 quotient(0,0,2)=-2 quotient(0,0,-1)=-2 quotient(0,MAX,0)=-2 quotient(0,0,MIN)=-2
@@ -440,6 +460,8 @@ public final class BoundaryChecks {
     }
     for (int start = 0; start < 4; start++) {
       changeCounts("1/9/" + moves, "start(0," + start + ")=1", start + "/9/" + moves);
+      changeCounts("0/9/" + moves, "start(0," + start + ")=0", start + "/9/" + moves);
+      changeCounts("0/2/120,112,012", "start(0," + start % 3 + ")=0", start % 3 + "/2/120,112,012");
     }
     for (int ends = 0; ends < 16; ends++) {
       changeCounts("0/6/" + moves, "ends(0," + ends + ")=6", "0/" + ends + "/" + moves);
@@ -493,6 +515,9 @@ public final class BoundaryChecks {
     test(17, "the greatest PERIOD (4), how many TAKEN (5), ZERO (6; NONE). BAD: machine, what.", "green(0,0)=-2 " + SUBWORD_AB + """
         green(0,0)=4 green(0,1)=5 green(0,2)=5 green(0,3)=5 green(0,4)=1 green(0,5)=1 green(0,6)=3 green(0,7)=-2 green(0,-1)=-2
         green(0,MAX)=-2 green(0,MIN)=-2 green(1,0)=-2 green(-1,0)=-2 green(3,0)=-2""");
+    test(17, "How many IDEMPOTENTS (what 0), CLASSES by SIDE 0, 1, 2 (1, 2, 3)", SWAP_AND_ENDS + """
+        green(0,0)=3 green(0,1)=2 green(0,2)=3 green(0,3)=2 green(0,4)=2 green(0,5)=2 green(0,6)=-1 machine(1)=1 green(1,0)=1
+        green(1,1)=1 green(1,2)=1 green(1,3)=1 green(1,4)=1 green(1,5)=0""");
     test(17, "those that come from one another are of one", CYCLE_OF_FOUR + """
         green(0,0)=1 green(0,1)=1 green(0,2)=1 green(0,3)=1 green(0,4)=4 green(0,5)=1 drop()=0
         made:0/2/122,111,222=0 green(0,0)=3 green(0,1)=3 green(0,2)=2 green(0,3)=2 drop()=0
@@ -645,7 +670,8 @@ public final class BoundaryChecks {
     test(23, "-100 less the place of its FAULT", "read:x=-100 read:e)=-101 read:(e|~abc&x)=-108 read:~abc|=-105 formula()=-100");
     test(23, "(60 bytes at most; no blanks)", "read:" + SIXTY_BYTES.substring(0, 59) + "=0 says(0,123)=1 says(0,132)=0 read:"
         + SIXTY_BYTES + "=-159 read:" + SIXTY_BYTES.substring(0, 54) + "|~abcc=-159 read:" + SIXTY_BYTES.substring(0, 54)
-        + "|~ab&e=1 says(1,123)=1 says(1,132)=0 read:" + SIXTY_BYTES.substring(0, 55) + "!!!!!=-160 causes:0,55,56,57,58,59,60");
+        + "|~ab&e=1 says(1,123)=1 says(1,132)=0 read:" + SIXTY_BYTES.substring(0, 55) + "!!!!!=-160 causes:0,55,56,57,58,59,60 "
+        + "read:^b&!~a=2 says(2,23)=1 says(2,123)=0 says(0,123)=1");
     test(23, "(60 bytes at most; no blanks)", "read:_e=-100 read:e_=-101 read:e_&e=-101 read:e&_e=-102 read:~_a=-101 read:~a_=-102 "
         + "read:%_2=-101 read:(_e)=-101 read:!_e=-101");
     test(23, "(the tape's size, if it ends too early)", """
@@ -802,6 +828,9 @@ public final class BoundaryChecks {
     test(28, "Which ELEMENT a word does that is DRAWN, n letters (0 .. 99). BAD: machine, n.", "drawn(0,0,0)=-2 " + SUBWORD_AB + """
         drawn(0,5,0)=0 drawn(0,MIN,0)=0 drawn(0,MAX,99)=3 drawn(0,0,100)=-2 drawn(0,0,-1)=-2 drawn(0,0,MAX)=-2 drawn(0,0,MIN)=-2
         drawn(1,0,0)=-2 drawn(-1,0,0)=-2 drawn(3,0,0)=-2""");
+    test(29, "IN m seeds (1 .. 20)", """
+        made:0/2/111,000=0 chance(0,7,1,1,0)=1 chance(0,7,1,1,1)=1 chance(0,7,20,99,0)=1 chance(0,7,20,98,0)=0 chance(0,7,20,98,1)=1
+        chance(0,7,0,1,0)=-2 chance(0,7,0,1,1)=-2 chance(0,7,21,1,0)=-2 chance(0,7,21,1,1)=-2""");
     test(29, "IN m seeds, n letters (0 .. 99) each: part 0 above, 1 below the line, in lowest terms (0 by 1). BAD: machine, m, n, part.", """
         chance(0,0,1,0,0)=-2 machine(1)=0 chance(0,0,1,0,0)=0 chance(0,0,1,0,1)=1 chance(0,0,20,99,0)=0 chance(0,0,20,99,1)=1
         chance(0,MAX,12,99,1)=1 turn(0)=1 chance(0,0,20,0,0)=1 chance(0,0,20,99,1)=1 chance(0,0,0,0,0)=-2 chance(0,0,21,0,0)=-2
@@ -909,6 +938,12 @@ public final class BoundaryChecks {
     test(37, "SHEETS 0 .. 3 are rows of numbers", """
         sheet(0,0,1)=1 sheet(1,1,2)=1 sheet(2,0,3)=1 sheet(3,1,4)=1 sheet(4,0,1)=-2 sheet(-1,0,1)=-2 sheet(MAX,0,1)=-2 sheet(MIN,0,1)=-2
         put(0,0,1)=1 put(0,1,1)=-12 put(1,1,1)=1 put(1,2,1)=-12 put(2,2,1)=1 put(2,3,1)=-12 put(3,3,1)=1 put(3,4,1)=-12""");
+    test(37, "-11 it is missing, -12 a place outside, -13 a thing of another sort, -14 a size below 0", """
+        put(0,0,0)=-11 sheet(0,0,1)=1 put(0,1,0)=-12 sheet(1,1,1)=1 copy(0,0,1,0,1)=-13 sheet(2,0,-1)=-14 sheet(0,1,-1)=-14
+        put(0,0,1)=1 put(2,0,0)=-11""");
+    test(37, "of sort 0 shorts, 1 ints", """
+        machine(1)=0 sheet(0,0,3)=1 sheet(1,1,3)=1 put:0:65536,-65536,131072 put:1:65536,-65536,131072 load(0,0,0,0)=3
+        load(1,1,0,0)=0 load(0,1,0,0)=-13 load(1,0,0,0)=-13""");
     test(37, "BAD: no such SHEET, sort; n above 40; -14.", """
         sheet(0,0,0)=1 put(0,0,1)=-12 sheet(0,0,40)=1 put(0,39,1)=1 put(0,40,1)=-12 sheet(0,0,41)=-2 sheet(0,1,41)=-2 sheet(0,0,-1)=-14
         sheet(0,1,-1)=-14 sheet(0,1,MIN)=-14 sheet(0,0,MAX)=-2 sheet(0,2,1)=-2 sheet(0,-2,1)=-2 sheet(0,MAX,1)=-2 sheet(0,MIN,1)=-2
