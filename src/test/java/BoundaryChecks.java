@@ -461,7 +461,7 @@ public final class BoundaryChecks {
     for (int start = 0; start < 4; start++) {
       changeCounts("1/9/" + moves, "start(0," + start + ")=1", start + "/9/" + moves);
       changeCounts("0/9/" + moves, "start(0," + start + ")=0", start + "/9/" + moves);
-      changeCounts("0/2/120,112,012", "start(0," + start % 3 + ")=0", start % 3 + "/2/120,112,012");
+      changeCounts("0/2/120,111,222", "start(0," + start % 3 + ")=0", start % 3 + "/2/120,111,222");
     }
     for (int ends = 0; ends < 16; ends++) {
       changeCounts("0/6/" + moves, "ends(0," + ends + ")=6", "0/" + ends + "/" + moves);
@@ -672,6 +672,8 @@ public final class BoundaryChecks {
         + SIXTY_BYTES + "=-159 read:" + SIXTY_BYTES.substring(0, 54) + "|~abcc=-159 read:" + SIXTY_BYTES.substring(0, 54)
         + "|~ab&e=1 says(1,123)=1 says(1,132)=0 read:" + SIXTY_BYTES.substring(0, 55) + "!!!!!=-160 causes:0,55,56,57,58,59,60 "
         + "read:^b&!~a=2 says(2,23)=1 says(2,123)=0 says(0,123)=1");
+    test(23, "(60 bytes at most; no blanks)", "read:!e" + "|e".repeat(29) + "=0 says(0,0)=1 says(0,1)=1 read:!e" + "&e".repeat(29)
+        + "=1 says(1,0)=0 says(1,1)=0 read:e" + "&!e|e".repeat(11) + "|#a=2 says(2,0)=1 says(2,2)=0 says(2,1)=1 says(0,2)=1");
     test(23, "(60 bytes at most; no blanks)", "read:_e=-100 read:e_=-101 read:e_&e=-101 read:e&_e=-102 read:~_a=-101 read:~a_=-102 "
         + "read:%_2=-101 read:(_e)=-101 read:!_e=-101");
     test(23, "(the tape's size, if it ends too early)", """
